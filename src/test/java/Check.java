@@ -1,5 +1,13 @@
-/** Counts the answers that are not the ones that are due, and ends a test with exit code 1 if any. */
+import java.util.Arrays;
+
+/**
+ * Counts the answers that are not the ones that are due, and ends a test with exit code 1 if any.
+ * Each sentence of the document is looked at on its own, so that a fault names what does not hold.
+ */
 final class Check {
+    private static final int[] ROOMS = {1, 2, 3, 7, 1000};
+
+    private int sentences;
     private int looked;
     private int wrong;
 
@@ -15,12 +23,33 @@ final class Check {
         due(what, got ? 1 : 0, want ? 1 : 0);
     }
 
+    /** Looks whether these words of the document hold; a test that looks at nothing is a fault. */
+    void sentence(String words, Runnable test) {
+        int lookedBefore = looked;
+        int wrongBefore = wrong;
+        sentences++;
+        try {
+            test.run();
+        } catch (RuntimeException thrown) {
+            wrong++;
+            System.out.println("thrown: " + thrown);
+        }
+        if (looked == lookedBefore) {
+            wrong++;
+            System.out.println("no answer was looked at");
+        }
+        if (wrong != wrongBefore) {
+            System.out.println("DOES NOT HOLD: " + words);
+        }
+    }
+
     boolean allAsDue() {
         return wrong == 0;
     }
 
     void end() {
-        System.out.println(looked + " answers, " + wrong + " not as due");
+        String of = sentences == 0 ? "" : sentences + " sentences, ";
+        System.out.println(of + looked + " answers, " + wrong + " not as due");
         if (wrong != 0 || looked == 0) {
             System.exit(1);
         }
@@ -33,6 +62,39 @@ final class Check {
             due("feed(" + tokens[i] + ")", machine.feed(tokens[i]), i + 1);
         }
         return machine;
+    }
+
+    /** A new object with these tokens that has run them. */
+    SegmentMachine ran(int... tokens) {
+        SegmentMachine machine = fed(tokens);
+        machine.run(1);
+        return machine;
+    }
+
+    /** Looks at the end of the run, its number, and all that it put out, whatever the room is. */
+    void comesTo(int[] program, int status, int number, int... outs) {
+        SegmentMachine machine = fed(program);
+        for (int room : ROOMS) {
+            String what = Arrays.toString(program) + " at room " + room;
+            due(what, machine.run(room), status);
+            due(what + ": number()", machine.number(), number);
+            due(what + ": outs()", machine.outs(), outs.length);
+            for (int i = 0; i < outs.length; i++) {
+                due(what + ": out(" + i + ")", machine.out(i), outs[i]);
+            }
+        }
+    }
+
+    /** Looks at what the run counted, whatever the room is. */
+    void counts(int[] program, int status, int calls, int shifts, int deepest) {
+        SegmentMachine machine = fed(program);
+        for (int room : ROOMS) {
+            String what = Arrays.toString(program) + " at room " + room;
+            due(what, machine.run(room), status);
+            due(what + ": calls()", machine.calls(), calls);
+            due(what + ": shifts()", machine.shifts(), shifts);
+            due(what + ": deepest()", machine.deepest(), deepest);
+        }
     }
 
     /** Everything that a run leaves behind, as it is where nothing has run. */

@@ -36,6 +36,15 @@ public final class ModelTest {
         return (int) ((seed >>> 33) % bound);
     }
 
+    /** A number below the bound or, now and then, one at either end of the ints. */
+    private static int any(int bound) {
+        int choice = below(20);
+        if (choice < 2) {
+            return (choice == 0 ? Integer.MIN_VALUE : Integer.MAX_VALUE) + below(9) - 4;
+        }
+        return below(bound);
+    }
+
     private static List<Integer> plain() {
         List<Integer> program = new ArrayList<>();
         write(program, 1 + below(32), 0, false);
@@ -148,15 +157,15 @@ public final class ModelTest {
         for (int call = 0; call < CALLS; call++) {
             int choice = below(20);
             if (choice < feeding) {
-                int token = below(8) == 0 ? below(400) - 150 : tokenFor(1 + below(4), below(64));
+                int token = below(8) == 0 ? any(400) - 150 : tokenFor(1 + below(4), below(64));
                 due(model, "feed", token, machine.feed(token), model.feed(token));
             } else if (choice < 9) {
                 due(model, "undo", 0, machine.undo(), model.undo());
             } else if (choice < 12) {
-                int room = below(6) == 0 ? below(2) * 1001 - below(2) : 1 + below(1000);
+                int room = below(4) == 0 ? any(4) * 1001 - below(2) : 1 + below(1000);
                 due(model, "run", room, machine.run(room), model.run(room));
             } else {
-                ask(below(QUESTIONS), below(40) - 4, machine, model);
+                ask(below(QUESTIONS), any(40) - 4, machine, model);
             }
         }
     }
