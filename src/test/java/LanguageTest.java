@@ -38,7 +38,6 @@ public final class LanguageTest {
     private static ClassTree type;
     private static final Map<String, VariableTree> FIELDS = new LinkedHashMap<>();
     private static final List<MethodTree> METHODS = new ArrayList<>();
-    private static final Set<String> ARRAYS = new HashSet<>();
 
     public static void main(String[] args) throws IOException {
         read();
@@ -71,11 +70,6 @@ public final class LanguageTest {
                 FIELDS.put(field.getName().toString(), field);
             } else if (member instanceof MethodTree method) {
                 METHODS.add(method);
-            }
-        }
-        for (Tree tree : inside(type)) {
-            if (tree instanceof VariableTree variable && isArrayOfNumbers(variable.getType())) {
-                ARRAYS.add(variable.getName().toString());
             }
         }
     }
@@ -180,8 +174,8 @@ public final class LanguageTest {
                 CHECK.due("a name of its own: " + name, own.contains(name.toString()), true);
             } else if (tree instanceof MemberSelectTree select) {
                 String member = select.getIdentifier().toString();
-                boolean length = member.equals("length") && isArray(select.getExpression());
-                CHECK.due("a member: " + select, length || own.contains(member), true);
+                boolean known = own.contains(member) || member.equals("length");
+                CHECK.due("a member: " + select, known, true);
             }
         }
     }
@@ -232,21 +226,35 @@ public final class LanguageTest {
             Tree answer = method.getReturnType();
             boolean isPlain = answer == null || answer instanceof PrimitiveTypeTree;
             CHECK.due("what " + method.getName() + " answers", isPlain, true);
+            Set<String> arrays = arraysIn(method);
             for (Tree tree : inside(method)) {
                 if (tree instanceof AssignmentTree set) {
-                    boolean assigned = answer != null && isArray(set.getVariable());
+                    boolean assigned = answer != null && isOneOf(arrays, set.getVariable());
                     CHECK.due("no array is assigned: " + set, assigned, false);
                 } else if (tree instanceof BinaryTree both) {
-                    boolean compared = isArray(both.getLeftOperand())
-                        || isArray(both.getRightOperand());
+                    boolean compared = isOneOf(arrays, both.getLeftOperand())
+                        || isOneOf(arrays, both.getRightOperand());
                     CHECK.due("no array is compared: " + both, compared, false);
                 }
             }
         }
     }
 
-    private static boolean isArray(ExpressionTree some) {
-        return ARRAYS.contains(some.toString().replace("this.", ""));
+    private static Set<String> arraysIn(MethodTree method) {
+        List<Tree> variables = new ArrayList<>(FIELDS.values());
+        variables.addAll(inside(method, Tree.Kind.VARIABLE));
+        Set<String> arrays = new HashSet<>();
+        for (Tree tree : variables) {
+            VariableTree variable = (VariableTree) tree;
+            if (isArrayOfNumbers(variable.getType())) {
+                arrays.add(variable.getName().toString());
+            }
+        }
+        return arrays;
+    }
+
+    private static boolean isOneOf(Set<String> names, ExpressionTree some) {
+        return names.contains(some.toString().replace("this.", ""));
     }
 
     private static void constants() {

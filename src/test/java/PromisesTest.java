@@ -344,6 +344,25 @@ public final class PromisesTest {
                 due("deepest() at room " + room, machine.deepest(), 9);
             }
         });
+        sentence("7: collects what is not used any more: not what is still used", () -> {
+            // By the name of a pending term.
+            stillUsed(22, 60, 107, 53, 61, 101, 31, 53, 61, 102, 31, 53, 61, 103, 31,
+                53, 61, 104, 31, 53, 61, 105, 31, 30);
+            // By a function that is the first value of a pending term.
+            stillUsed(17, 52, 60, 107, 41, 53, 30, 31, 60, 101, 60, 102, 60, 103, 110);
+            // By a function that a name has.
+            stillUsed(17, 62, 60, 107, 41, 53, 30, 31, 60, 101, 60, 102, 60, 103, 52, 32, 110);
+            // By the names of what a SHIFT took, and by its first values.
+            stillUsed(17, 61, 60, 107, 59, 53, 72, 32, 30, 60, 101, 60, 102, 60, 103, 52, 31, 110);
+            stillUsed(17, 61, 59, 52, 60, 107, 41, 53, 30, 31, 72, 32, 60, 101, 60, 102, 60, 103,
+                52, 31, 110);
+            // By what a SHIFT took inside what another SHIFT took.
+            stillUsed(19, 61, 59, 52, 59, 60, 107, 53, 72, 32, 30, 53, 102, 72, 32,
+                60, 101, 60, 102, 60, 103, 52, 31, 110);
+            // By names further out.
+            stillUsed(15, 60, 101, 61, 102, 62, 103, 63, 104, 64, 105,
+                53, 30, 53, 31, 53, 32, 53, 33, 34);
+        });
         sentence("7: no difference, on one object and however often it runs", () -> {
             SegmentMachine machine = fed(BUSY);
             int[] rooms = {1, 1000, 2, 999, 3, 1, 500};
@@ -359,6 +378,10 @@ public final class PromisesTest {
             due("number()", ran(sums).number(), 15);
             due("run(1)", fed(100).run(1), SegmentMachine.DONE);
         });
+    }
+
+    private static void stillUsed(int number, int... program) {
+        CHECK.comesTo(program, SegmentMachine.DONE, number);
     }
 
     private static void runRefuses() {
