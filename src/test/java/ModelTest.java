@@ -3,7 +3,7 @@ import java.util.List;
 
 /** Many programs, and many runs of calls, with the answers that Model gives. */
 public final class ModelTest {
-    private static final int PROGRAMS = 150000;
+    private static final int PROGRAM_OBJECTS = 50000;
     private static final int OBJECTS = 3000;
     private static final int CALLS = 512;
     private static final int SELF = -1;
@@ -16,8 +16,8 @@ public final class ModelTest {
     public static void main(String[] args) {
         int[] endings = new int[6];
         int[] seen = new int[2];
-        for (int i = 0; i < PROGRAMS && CHECK.allAsDue(); i++) {
-            compareProgram(i % 3 == 0 ? plain() : recursive(i % 3 == 1), endings, seen);
+        for (int i = 0; i < PROGRAM_OBJECTS && CHECK.allAsDue(); i++) {
+            comparePrograms(endings, seen);
         }
         for (int i = 0; i < OBJECTS && CHECK.allAsDue(); i++) {
             compareCalls();
@@ -123,21 +123,34 @@ public final class ModelTest {
         return 80 + below(41);
     }
 
-    private static void compareProgram(List<Integer> program, int[] endings, int[] seen) {
+    /** Three programs, one after the other on one object; fewer than 512 calls in all. */
+    private static void comparePrograms(int[] endings, int[] seen) {
         SegmentMachine machine = new SegmentMachine();
         Model model = new Model();
-        for (int token : program) {
-            due(model, "feed", token, machine.feed(token), model.feed(token));
+        List<List<Integer>> programs = List.of(plain(), recursive(true), recursive(false));
+        int first = below(programs.size());
+        for (int i = 0; i < programs.size(); i++) {
+            List<Integer> program = programs.get((first + i) % programs.size());
+            for (int token : program) {
+                due(model, "feed", token, machine.feed(token), model.feed(token));
+            }
+            compareRuns(machine, model);
+            endings[model.status]++;
+            if (model.status == SegmentMachine.DONE) {
+                seen[0] += model.calls >= 15 ? 1 : 0;
+                seen[1] += model.shifts >= 4 ? 1 : 0;
+            }
+            for (int left = program.size(); left > 0; left--) {
+                due(model, "undo", left, machine.undo(), model.undo());
+            }
         }
-        int[] rooms = {1, 2 + below(6), 1 + below(1000)};
+    }
+
+    private static void compareRuns(SegmentMachine machine, Model model) {
+        int[] rooms = {1 + below(4), 1 + below(8), 1 + below(1000)};
         for (int room : rooms) {
             due(model, "run", room, machine.run(room), model.run(room));
             compareRun(machine, model);
-        }
-        endings[model.status]++;
-        if (model.status == SegmentMachine.DONE) {
-            seen[0] += model.calls >= 15 ? 1 : 0;
-            seen[1] += model.shifts >= 4 ? 1 : 0;
         }
     }
 

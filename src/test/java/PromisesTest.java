@@ -371,6 +371,23 @@ public final class PromisesTest {
                 busyRunStands("run(" + room + ")", machine);
             }
         });
+        sentence("7: no difference, whatever ran before on the object", () -> {
+            int[] before = {53, 60, 101, 30, 60, 102, 30};
+            int[] after = {60, 107, 61, 101, 62, 102, 63, 103, 53, 30, 53, 31, 53, 32, 33};
+            for (int room = 1; room <= 5; room++) {
+                SegmentMachine machine = fed(before);
+                due("run(" + room + ") before", machine.run(room), SegmentMachine.DONE);
+                due("number() before", machine.number(), 3);
+                for (int i = 0; i < before.length; i++) {
+                    machine.undo();
+                }
+                for (int token : after) {
+                    machine.feed(token);
+                }
+                due("run(" + room + ") after", machine.run(room), SegmentMachine.DONE);
+                due("number() after", machine.number(), 13);
+            }
+        });
         sentence("7: a program of 32 tokens, and one of a single token", () -> {
             int[] sums = Programs.joined(Programs.list(58), times(14, 53), times(14, 101),
                 Programs.list(59, 58, 101));
