@@ -7,9 +7,28 @@ import java.util.Arrays;
 final class Check {
     private static final int[] ROOMS = {1, 2, 3, 7, 1000};
 
+    private static final long LONGEST_TEST = 180_000;
+
     private int sentences;
     private int looked;
     private int wrong;
+
+    Check() {
+        Thread watch = new Thread(Check::endIfTooLong);
+        watch.setDaemon(true);
+        watch.start();
+    }
+
+    // A call that does not end is to fail the test, not to hold it up for ever.
+    private static void endIfTooLong() {
+        try {
+            Thread.sleep(LONGEST_TEST);
+        } catch (InterruptedException woken) {
+            return;
+        }
+        System.out.println("the test does not end");
+        Runtime.getRuntime().halt(1);
+    }
 
     void due(String what, long got, long want) {
         looked++;
